@@ -1,5 +1,3 @@
-import java.util.Arrays;
-
 /**
  * It rains on the one without: CELLS, PEOPLE, a SHOWER that goes for one of them, laws of whom it
  * wants and how much it pours, and what can be asked of all that. DOC.md says what each call
@@ -73,7 +71,7 @@ public final class RainOnTheOne {
     private final Sky ahead;
     private final int[] row;
     private final int[] kept = new int[WHOLE];
-    private final Law[] laws = new Law[MOST_TEXTS];
+    private final Law[] laws;
     private final Reader reader;
     private final int[] tape = new int[MOST_BYTES];
     private int bytes = 0;
@@ -84,17 +82,21 @@ public final class RainOnTheOne {
     private final Parting parting = new Parting();
 
     public RainOnTheOne() {
+        Law[] texts = new Law[MOST_TEXTS];
         for (int i = 0; i < MOST_TEXTS; i++) {
-            laws[i] = new Law();
+            texts[i] = new Law();
         }
-        reader = new Reader(laws[0]);
         Judge judge = new Judge();
-        sky = new Sky(WHOLE, laws, judge);
-        ahead = new Sky(SCENE, laws, judge);
+        laws = texts;
+        reader = new Reader(texts[0]);
+        sky = new Sky(WHOLE, texts, judge);
+        ahead = new Sky(SCENE, texts, judge);
         row = sky.row;
         row[X] = FIRST_X;
         row[RULING] = NONE;
-        Arrays.fill(row, COST, COST + MOST_PEOPLE * DAYS, FIRST_COST);
+        for (int i = 0; i < MOST_PEOPLE * DAYS; i++) {
+            row[COST + i] = FIRST_COST;
+        }
         System.arraycopy(row, 0, kept, 0, WHOLE);
     }
 
@@ -1517,7 +1519,8 @@ public final class RainOnTheOne {
                     stack[height - 1] = isCell(c) ? row[WATER + c] : 0;
                 } else if (height > 1) {
                     height--;
-                    stack[height - 1] = joined(what, stack[height - 1], stack[height]);
+                    long joined = joined(what, stack[height - 1], stack[height]);
+                    stack[height - 1] = (int) Math.max(-MOST, Math.min(MOST, joined));
                 }
             }
             return height > 0 ? stack[0] : 0;
@@ -1543,18 +1546,18 @@ public final class RainOnTheOne {
             }
         }
 
-        private static int joined(int how, int a, int b) {
+        private static long joined(int how, int a, int b) {
             switch (how) {
                 case Token.PLUS:
-                    return bounded(a + b);
+                    return a + b;
                 case Token.MINUS:
-                    return bounded(a - b);
+                    return a - b;
                 case Token.TIMES:
-                    return bounded((long) a * b);
+                    return (long) a * b;
                 case Token.BY:
                     return b == 0 ? 0 : a / b;
                 case Token.SHARE:
-                    return b == 0 ? 0 : bounded(a * 100 / b);
+                    return b == 0 ? 0 : a * 100 / b;
                 case Token.LESS:
                     return a < b ? 1 : 0;
                 case Token.AT_MOST:
@@ -1572,10 +1575,6 @@ public final class RainOnTheOne {
                 default:
                     return a | b;
             }
-        }
-
-        private static int bounded(long number) {
-            return (int) Math.max(-MOST, Math.min(MOST, number));
         }
     }
 
@@ -1774,7 +1773,9 @@ public final class RainOnTheOne {
             people = state[PEOPLE];
             most = k;
             best = TOO_MUCH;
-            Arrays.fill(times, 0);
+            for (int p = 0; p < MOST_PEOPLE; p++) {
+                times[p] = 0;
+            }
             for (int day = DAYS - 1; day >= 0; day--) {
                 boundDay(day);
             }
