@@ -39,11 +39,16 @@ public final class AskTest {
         for (int what = 0; what < 6; what++) {
             Check.due("of " + what, x.of(0, what), due[what]);
         }
+        x.person(0, true);
+        x.minute(2);
+        Check.due("been", x.of(1, 3), 2);
+        Check.due("wet", x.of(1, 2), 6);
+        Check.due("been", x.of(0, 3), 0);
         Check.due("others", x.of(0, 6), -1);
         Check.due("others", x.of(0, -1), -1);
-        Check.due("others", x.of(1, 0), -1);
+        Check.due("others", x.of(2, 0), -1);
         Check.due("others", x.of(-1, 0), -1);
-        Check.due("asking changes nothing", x.about(3), 0);
+        Check.due("asking changes nothing", x.about(3), 2);
     }
 
     private static void ofCells() {
@@ -125,6 +130,14 @@ public final class AskTest {
         x.by(Check.text(x, "wants -wet;"));
         Check.due("when", x.when(0), 3);
         Check.due("when", x.when(1), 5);
+        Check.due("wet of another", x.foretold(5, 1, 1), 3);
+        RainOnTheOne y = new RainOnTheOne();
+        y.person(0, true);
+        y.person(0, true);
+        y.by(Check.text(y, "wants if minute<59 then -who else who end;"));
+        Check.due("at last", y.when(1), 60);
+        y.by(Check.text(y, "wants if minute<60 then -who else who end;"));
+        Check.due("too late", y.when(1), -1);
     }
 
     private static void ways() {
@@ -272,6 +285,25 @@ public final class AskTest {
         Check.due("one is enough", x.cut(0, 28), 1);
         x.shed(6, true);
         Check.due("none now", x.cut(0, 28), 0);
+        // a wall from above to below with gaps in it
+        RainOnTheOne wall = new RainOnTheOne();
+        int[] cells = {3, 27, 9, 21, 15};
+        Check.due("no wall", wall.cut(13, 16), 4);
+        for (int i = 0; i < cells.length; i++) {
+            wall.shed(cells[i], true);
+            Check.due("gaps left: " + (4 - i), wall.cut(13, 16), 4 - i);
+            Check.due("the other way", wall.cut(16, 13), 4 - i);
+        }
+        // two cells left open in a wall from side to side
+        RainOnTheOne pair = new RainOnTheOne();
+        for (int c = 12; c < 16; c++) {
+            pair.shed(c, true);
+        }
+        Check.due("two in the way", pair.cut(7, 20), 2);
+        Check.due("two in the way", pair.cut(20, 7), 2);
+        RainOnTheOne path = only(1, 6, 12, 2);
+        Check.due("the first cell", path.cut(1, 6), 1);
+        Check.due("the first cell", path.cut(2, 12), 1);
     }
 
     private static void narrows() {
@@ -287,6 +319,9 @@ public final class AskTest {
         Check.due("a ring has none", ring.narrows(), 0);
         ring = only(1, 2, 6, 8, 12, 13, 14, 15);
         Check.due("a ring with a tail", ring.narrows(), 1 << 14);
+        Check.due("the first cell", only(1, 6).narrows(), 1);
+        Check.due("the last cells", only(22, 23, 29, 28, 27).narrows(), 1 << 28);
+        Check.due("the last cell", only(23, 29, 28).narrows(), 1 << 29);
         RainOnTheOne cross = only(1, 2, 7, 12, 13, 14);
         Check.due("a bridge", cross.narrows(), 1 << 1 | 1 << 7 | 1 << 13);
     }

@@ -292,6 +292,10 @@ public final class DoTest {
         Check.due("those that can pass do", x.played(0), 1);
         Check.due("minute", x.is(0), 9999);
         Check.due("none can pass", x.played(0), 1);
+        x = late(9990);
+        Check.text(x, "minute 9;");
+        Check.due("just enough", x.played(0), -1);
+        Check.due("minute", x.is(0), 9999);
     }
 
     private static void ends(String text, int clause) {
@@ -332,6 +336,7 @@ public final class DoTest {
         Check.due("walks left", x.of(0, 0), 13);
         Check.due("x", x.is(2), (20239 * 487 + 373) % 30671);
         yearOfHat();
+        firstYears();
     }
 
     /** Looks for a seed whose second draw is of the kind 2, both ways. */
@@ -349,6 +354,23 @@ public final class DoTest {
             }
         }
         Check.due("both are met", met[0] && met[1], true);
+    }
+
+    /** The first draw of each seed, of the middle and of the corners, is as its number says. */
+    private static void firstYears() {
+        int[] starts = {0, 5, 14, 24, 29};
+        for (int seed = 0; seed < 48; seed++) {
+            int first = seed * 2 + 241;
+            for (int start : starts) {
+                RainOnTheOne x = new RainOnTheOne();
+                x.person(start, false);
+                int row = start / 6 + new int[] {-1, 0, 0, 1}[first / 6 % 4];
+                int column = start % 6 + new int[] {0, -1, 1, 0}[first / 6 % 4];
+                boolean goes = first % 6 < 2 && row >= 0 && row < 5 && column >= 0 && column < 6;
+                Check.due("minute", x.years(seed, 1), first % 6 >= 3 ? 1 : 0);
+                Check.due("cell, seed " + seed, x.of(0, 0), goes ? row * 6 + column : start);
+            }
+        }
     }
 
     private static void undo() {

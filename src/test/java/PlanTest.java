@@ -71,6 +71,19 @@ public final class PlanTest {
             Check.due("of like ones", y.roster(2, day), due[day]);
         }
         Check.due("on 0 alone", y.roster(1, -1), -1);
+        // whoever is cheapest on a day may be too dear by what it keeps from the next days
+        RainOnTheOne z = with(3);
+        for (int day = 0; day < 7; day++) {
+            z.cost(0, day, day % 2 == 0 ? 5 : 1);
+            z.cost(1, day, 20);
+            z.cost(2, day, day == 3 ? 0 : 30);
+        }
+        // 1 0 1 0 1 0 1 is 83, 0 1 0 1 0 1 0 is 80, 0 1 0 2 0 1 0 is 60
+        int[] best = {0, 1, 0, 2, 0, 1, 0};
+        Check.due("roster", z.roster(7, -1), 60);
+        for (int day = 0; day < 7; day++) {
+            Check.due("roster", z.roster(7, day), best[day]);
+        }
     }
 
     private static void swaps() {
@@ -256,6 +269,10 @@ public final class PlanTest {
         Check.due("a shed too", x.driest(), 29);
         x.field(0, 6);
         Check.due("just enough", x.thirsty(false), 1 << 29 | 1 << 7);
+        RainOnTheOne y = new RainOnTheOne();
+        y.field(12, 1);
+        Check.due("by one", y.thirsty(false), 1 << 12);
+        Check.due("by one", y.driest(), 12);
     }
 
     private static void wettestAndNear() {
@@ -284,6 +301,12 @@ public final class PlanTest {
         Check.due("wet", x.of(0, 2), 3);
         Check.due("wet", x.of(1, 2), 3);
         Check.due("of like ones the lowest", x.wettest(), 0);
+        x.hat(0, false);
+        x.minute(2);
+        Check.due("wet", x.of(1, 2), 1);
+        Check.due("of like ones the lowest", x.wettest(), 0);
+        x.minute(1);
+        Check.due("dry again", x.wettest(), -1);
     }
 
     private static void ledger() {

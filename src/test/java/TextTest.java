@@ -31,6 +31,14 @@ public final class TextTest {
         Check.fault("draw  ", 1, 6);
         Check.fault("  7", 1, 2);
         Check.fault("drawa;", 1, 0);
+        Check.fault("drawz;", 1, 0);
+        Check.fault("drawA;", 1, 0);
+        Check.fault("drawZ;", 1, 0);
+        Check.fault("draw[;", 1, 4);
+        Check.fault("draw@;", 1, 4);
+        Check.fault("draw`;", 1, 4);
+        Check.fault("draw{;", 1, 4);
+        Check.fault("hat 4:;", 1, 5);
         Check.fault("dra w;", 1, 0);
     }
 
@@ -213,6 +221,10 @@ public final class TextTest {
         says("if 2>2 then 3 else 4 end", 4);
         says("if 2>=2 then 3 else 4 end", 3);
         says("if 2=2 then 3 else 4 end", 3);
+        says("if 3<=2 then 3 else 4 end", 4);
+        says("if 2>=3 then 3 else 4 end", 4);
+        says("if 3>2 then 3 else 4 end", 3);
+        says("if 3=2 then 3 else 4 end", 4);
         says("if 2#2 then 3 else 4 end", 4);
         says("if 1#2 then 3 else 4 end", 3);
         says("if not 1#2 then 3 else 4 end", 4);
