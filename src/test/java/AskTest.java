@@ -14,21 +14,6 @@ public final class AskTest {
         Check.finish();
     }
 
-    /** Makes every CELL a SHED but these and the SHOWER's, 0. */
-    private static RainOnTheOne only(int... cells) {
-        RainOnTheOne x = new RainOnTheOne();
-        for (int c = 1; c < 30; c++) {
-            boolean open = false;
-            for (int o : cells) {
-                open |= o == c;
-            }
-            if (!open) {
-                x.shed(c, true);
-            }
-        }
-        return x;
-    }
-
     private static void ofPeople() {
         RainOnTheOne x = new RainOnTheOne();
         for (int what = 0; what < 6; what++) {
@@ -187,7 +172,7 @@ public final class AskTest {
         Check.due("a shed", x.caught(29, 0, 1), -1);
         Check.due("a shed", x.flee(0, 29, 1), -1);
         // a corridor 0 .. 5
-        RainOnTheOne y = only(1, 2, 3, 4, 5);
+        RainOnTheOne y = Made.only(1, 2, 3, 4, 5);
         Check.due("at the end, side by side", y.caught(5, 4, 1), 1);
         Check.due("of like ones the lowest, SHOWER's", y.flee(5, 4, 1), 4);
         Check.due("in between", y.caught(3, 2, 1), 3);
@@ -195,12 +180,12 @@ public final class AskTest {
         Check.due("the other side", y.caught(2, 3, 1), 3);
         Check.due("away", y.flee(2, 3, 1), 1);
         // it can't come there: never; the lowest of all it may go to
-        RainOnTheOne z = only(1, 7, 20, 21);
+        RainOnTheOne z = Made.only(1, 7, 20, 21);
         Check.due("parted", z.caught(1, 20, 2), -1);
         Check.due("the lowest", z.flee(1, 20, 2), 0);
         Check.due("the lowest", z.flee(7, 20, 2), 1);
         // a ring of eight cells: round and round
-        RainOnTheOne ring = only(1, 2, 6, 8, 12, 13, 14);
+        RainOnTheOne ring = Made.only(1, 2, 6, 8, 12, 13, 14);
         Check.due("never", ring.caught(14, 0, 1), -1);
         Check.due("of like ones the lowest", ring.flee(14, 0, 1), 8);
         Check.due("away from it", ring.flee(2, 0, 1), 2);
@@ -208,7 +193,7 @@ public final class AskTest {
     }
 
     private static void chasesOfSpeedTwo() {
-        RainOnTheOne y = only(1, 2, 3, 4, 5);
+        RainOnTheOne y = Made.only(1, 2, 3, 4, 5);
         Check.due("near enough wherever it goes", y.caught(1, 0, 2), 1);
         Check.due("of like ones the lowest", y.flee(1, 0, 2), 0);
         // staying it is caught in the second turn; by 4 and 5 in the third
@@ -216,7 +201,7 @@ public final class AskTest {
         Check.due("away", y.flee(3, 0, 2), 4);
         Check.due("five off", y.caught(5, 0, 2), 3);
         // a ring of eight: four off; it stays or goes, two steps a turn come up with it
-        RainOnTheOne ring = only(1, 2, 6, 8, 12, 13, 14);
+        RainOnTheOne ring = Made.only(1, 2, 6, 8, 12, 13, 14);
         Check.due("caught", ring.caught(14, 0, 2) > 0, true);
         RainOnTheOne x = new RainOnTheOne();
         Check.due("two off", x.caught(0, 2, 2), 2);
@@ -301,7 +286,7 @@ public final class AskTest {
         }
         Check.due("two in the way", pair.cut(7, 20), 2);
         Check.due("two in the way", pair.cut(20, 7), 2);
-        RainOnTheOne path = only(1, 6, 12, 2);
+        RainOnTheOne path = Made.only(1, 6, 12, 2);
         Check.due("the first cell", path.cut(1, 6), 1);
         Check.due("the first cell", path.cut(2, 12), 1);
     }
@@ -313,16 +298,16 @@ public final class AskTest {
         Check.due("the corner's neighbour", x.narrows(), 1 << 6);
         x.shed(6, true);
         Check.due("0 is alone", x.narrows(), 0);
-        RainOnTheOne two = only(1, 2, 8, 20, 21, 22);
+        RainOnTheOne two = Made.only(1, 2, 8, 20, 21, 22);
         Check.due("in two parts", two.narrows(), 1 << 1 | 1 << 2 | 1 << 21);
-        RainOnTheOne ring = only(1, 2, 6, 8, 12, 13, 14);
+        RainOnTheOne ring = Made.only(1, 2, 6, 8, 12, 13, 14);
         Check.due("a ring has none", ring.narrows(), 0);
-        ring = only(1, 2, 6, 8, 12, 13, 14, 15);
+        ring = Made.only(1, 2, 6, 8, 12, 13, 14, 15);
         Check.due("a ring with a tail", ring.narrows(), 1 << 14);
-        Check.due("the first cell", only(1, 6).narrows(), 1);
-        Check.due("the last cells", only(22, 23, 29, 28, 27).narrows(), 1 << 28);
-        Check.due("the last cell", only(23, 29, 28).narrows(), 1 << 29);
-        RainOnTheOne cross = only(1, 2, 7, 12, 13, 14);
+        Check.due("the first cell", Made.only(1, 6).narrows(), 1);
+        Check.due("the last cells", Made.only(22, 23, 29, 28, 27).narrows(), 1 << 28);
+        Check.due("the last cell", Made.only(23, 29, 28).narrows(), 1 << 29);
+        RainOnTheOne cross = Made.only(1, 2, 7, 12, 13, 14);
         Check.due("a bridge", cross.narrows(), 1 << 1 | 1 << 7 | 1 << 13);
     }
 }

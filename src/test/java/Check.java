@@ -2,8 +2,14 @@
 final class Check {
     private static int wrong = 0;
     private static int done = 0;
+    private static String about = "";
 
     private Check() {
+    }
+
+    /** These words stand ahead of each wrong answer that is told from now on. */
+    static void about(String words) {
+        about = words;
     }
 
     static void due(String call, long got, long want) {
@@ -11,13 +17,17 @@ final class Check {
         if (got != want) {
             wrong++;
             if (wrong <= 50) {
-                System.out.println(call + " answered " + got + ", due is " + want);
+                System.out.println(about + call + " answered " + got + ", due is " + want);
             }
         }
     }
 
     static void due(String call, boolean got, boolean want) {
         due(call, got ? 1 : 0, want ? 1 : 0);
+    }
+
+    static void due(String call, String got, String want) {
+        due(call + ": '" + got + "', not '" + want + "',", got.equals(want), true);
     }
 
     static int wrongSoFar() {

@@ -214,20 +214,8 @@ public final class DoTest {
         Check.due("came", y.book(12, 3), 3);
     }
 
-    private static RainOnTheOne late(int minute) {
-        RainOnTheOne x = new RainOnTheOne();
-        for (int i = 0; i < minute / 60; i++) {
-            x.minute(60);
-        }
-        if (minute % 60 > 0) {
-            x.minute(minute % 60);
-        }
-        Check.due("minute", x.is(0), minute);
-        return x;
-    }
-
     private static void lastMinute() {
-        RainOnTheOne x = late(9960);
+        RainOnTheOne x = Made.late(9960);
         int before = x.is(2);
         Check.due("beyond 9999", x.minute(40), -1);
         Check.due("nothing is done", x.is(0), 9960);
@@ -283,7 +271,7 @@ public final class DoTest {
         ends("person 1;person 1;person 1;person 1;person 1;person 1;minute 1;", 5);
         ends("person 1;walk 1 to 2;", 1);
         ends("minute 60;field 0 of 0;field 0 of 0;", -1);
-        RainOnTheOne x = late(9990);
+        RainOnTheOne x = Made.late(9990);
         Check.text(x, "pours 1;minute 5;minute 5;draw;");
         Check.due("those that can pass do", x.played(0), 2);
         Check.due("minute", x.is(0), 9999);
@@ -292,7 +280,7 @@ public final class DoTest {
         Check.due("those that can pass do", x.played(0), 1);
         Check.due("minute", x.is(0), 9999);
         Check.due("none can pass", x.played(0), 1);
-        x = late(9990);
+        x = Made.late(9990);
         Check.text(x, "minute 9;");
         Check.due("just enough", x.played(0), -1);
         Check.due("minute", x.is(0), 9999);

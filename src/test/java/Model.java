@@ -411,15 +411,25 @@ final class Model {
         return p >= 0 && p < a.w.people.size();
     }
 
+    private static final List<List<Integer>> SIDES = allSides();
+
+    private static List<List<Integer>> allSides() {
+        List<List<Integer>> all = new ArrayList<>();
+        for (int c = 0; c < 30; c++) {
+            List<Integer> found = new ArrayList<>();
+            for (int side = 0; side < 4; side++) {
+                if (side(c, side) != NONE) {
+                    found.add(side(c, side));
+                }
+            }
+            all.add(found);
+        }
+        return all;
+    }
+
     /** Lowest first: above, left, right, below. */
     private static List<Integer> sides(int c) {
-        List<Integer> found = new ArrayList<>();
-        for (int side = 0; side < 4; side++) {
-            if (side(c, side) != NONE) {
-                found.add(side(c, side));
-            }
-        }
-        return found;
+        return SIDES.get(c);
     }
 
     private static int side(int c, int side) {

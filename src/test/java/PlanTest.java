@@ -17,14 +17,6 @@ public final class PlanTest {
         Check.finish();
     }
 
-    private static RainOnTheOne with(int people) {
-        RainOnTheOne x = new RainOnTheOne();
-        for (int p = 0; p < people; p++) {
-            x.person(p, false);
-        }
-        return x;
-    }
-
     private static void costs() {
         RainOnTheOne x = new RainOnTheOne();
         Check.due("there or not", x.cost(4, 6, 99), true);
@@ -41,9 +33,9 @@ public final class PlanTest {
     }
 
     private static void rosters() {
-        Check.due("nobody", with(0).roster(7, -1), -1);
-        Check.due("one can't", with(1).roster(7, -1), -1);
-        RainOnTheOne x = with(2);
+        Check.due("nobody", Made.with(0).roster(7, -1), -1);
+        Check.due("one can't", Made.with(1).roster(7, -1), -1);
+        RainOnTheOne x = Made.with(2);
         Check.due("two, 3 each", x.roster(3, -1), -1);
         Check.due("two, 4 each", x.roster(4, -1), 70);
         for (int day = 0; day < 7; day++) {
@@ -54,7 +46,7 @@ public final class PlanTest {
         Check.due("k", x.roster(7, -1), 70);
         Check.due("day", x.roster(7, 7), -1);
         Check.due("day", x.roster(7, -2), -1);
-        RainOnTheOne y = with(5);
+        RainOnTheOne y = Made.with(5);
         Check.due("five, once each", y.roster(1, -1), -1);
         int[] twice = {0, 1, 0, 1, 2, 3, 2};
         for (int day = 0; day < 7; day++) {
@@ -72,7 +64,7 @@ public final class PlanTest {
         }
         Check.due("on 0 alone", y.roster(1, -1), -1);
         // whoever is cheapest on a day may be too dear by what it keeps from the next days
-        RainOnTheOne z = with(3);
+        RainOnTheOne z = Made.with(3);
         for (int day = 0; day < 7; day++) {
             z.cost(0, day, day % 2 == 0 ? 5 : 1);
             z.cost(1, day, 20);
@@ -87,7 +79,7 @@ public final class PlanTest {
     }
 
     private static void swaps() {
-        RainOnTheOne x = with(2);
+        RainOnTheOne x = Made.with(2);
         Check.due("alike", x.swap(7, 0, 1), 0);
         x.cost(0, 0, 4);
         x.cost(1, 3, 30);
@@ -104,7 +96,7 @@ public final class PlanTest {
         Check.due("k", x.swap(0, 0, 1), -10000);
         Check.due("k", x.swap(8, 0, 1), -10000);
         Check.due("no roster", x.swap(3, 0, 1), -10000);
-        Check.due("nobody", with(0).swap(7, 0, 1), -10000);
+        Check.due("nobody", Made.with(0).swap(7, 0, 1), -10000);
     }
 
     private static void from() {
@@ -163,8 +155,8 @@ public final class PlanTest {
     }
 
     private static void likely() {
-        likely(with(0), 1, 1, -1, -1);
-        RainOnTheOne x = with(3);
+        likely(Made.with(0), 1, 1, -1, -1);
+        RainOnTheOne x = Made.with(3);
         likely(x, 1, 0, 2, 3);
         likely(x, 1, 1, 1, 3);
         likely(x, 2, 0, 4, 9);
@@ -178,30 +170,30 @@ public final class PlanTest {
         likely(x, 11, 0, -1, -1);
         likely(x, 10, 11, -1, -1);
         likely(x, 10, -1, -1, -1);
-        likely(with(1), 4, 4, 1, 1);
-        likely(with(1), 4, 3, 0, 1);
-        likely(with(1), 4, 0, 0, 1);
-        likely(with(2), 4, 2, 3, 8);
-        likely(with(2), 10, 5, 63, 256);
-        likely(with(5), 10, 0, 1048576, 9765625);
+        likely(Made.with(1), 4, 4, 1, 1);
+        likely(Made.with(1), 4, 3, 0, 1);
+        likely(Made.with(1), 4, 0, 0, 1);
+        likely(Made.with(2), 4, 2, 3, 8);
+        likely(Made.with(2), 10, 5, 63, 256);
+        likely(Made.with(5), 10, 0, 1048576, 9765625);
         // 252 * 4^5 of 5^10
-        likely(with(5), 10, 5, 258048, 9765625);
+        likely(Made.with(5), 10, 5, 258048, 9765625);
         // 10 * 4^9 of 5^10
-        likely(with(5), 10, 1, 2 * 262144, 1953125);
-        likely(with(4), 3, 1, 27, 64);
+        likely(Made.with(5), 10, 1, 2 * 262144, 1953125);
+        likely(Made.with(4), 3, 1, 27, 64);
     }
 
     private static void days() {
         int[] upper = {-1, 1, 3, 11, 25, 137};
         int[] lower = {-1, 1, 1, 2, 3, 12};
         for (int people = 0; people <= 5; people++) {
-            Check.due("days", with(people).days(false), upper[people]);
-            Check.due("days", with(people).days(true), lower[people]);
+            Check.due("days", Made.with(people).days(false), upper[people]);
+            Check.due("days", Made.with(people).days(true), lower[people]);
         }
     }
 
     private static void said() {
-        RainOnTheOne x = with(2);
+        RainOnTheOne x = Made.with(2);
         Check.due("said", x.said(0, -999), 1);
         Check.due("said", x.said(1, 999), 2);
         Check.due("others", x.said(0, 1000), -2);
@@ -218,7 +210,7 @@ public final class PlanTest {
     }
 
     private static void whose() {
-        RainOnTheOne x = with(3);
+        RainOnTheOne x = Made.with(3);
         Check.text(x, "wants steps;");
         Check.text(x, "pours 2;");
         Check.text(x, "wants 99-steps;");

@@ -21,12 +21,13 @@ public final class RandomTest {
     }
 
     public static void main(String[] args) {
-        int runs = args.length > 0 ? Integer.parseInt(args[0]) : 400;
+        int runs = args.length > 0 ? Integer.parseInt(args[0]) : 800;
         int first = args.length > 1 ? Integer.parseInt(args[1]) : 1;
         for (int seed = first; seed < first + runs && Check.wrongSoFar() == 0; seed++) {
             RandomTest run = new RandomTest(seed);
             run.start();
-            for (int i = 0; i < 450 && Check.wrongSoFar() == 0; i++) {
+            // a text takes up to 21 calls: so many stay within the 512 that an object is used for
+            for (int i = 0; i < 230 && Check.wrongSoFar() == 0; i++) {
                 run.call(i);
             }
         }
