@@ -269,6 +269,8 @@ final class EdgesOfTexts {
             says(first + " or " + asks[i >> 1 & 1] + " and " + rest, a || b && c ? 5 : 6);
             says(first + " and " + asks[i >> 1 & 1] + " or " + rest, a && b || c ? 5 : 6);
         }
+        says(deepest("1"), 1);
+        says(deepest("2"), 7);
         Check.fault("wants if 1 then 2 else 3 end;", 1, 11);
         Check.fault("wants if 1<2 else 3 end;", 1, 13);
         Check.fault("wants if 1<2 then 2 end;", 1, 20);
@@ -277,6 +279,15 @@ final class EdgesOfTexts {
         Check.fault("wants if 1<2 or then 2 else 3 end;", 1, 16);
         Check.fault("wants if and 1<2 then 2 else 3 end;", 1, 9);
         Check.fault("wants 1<2;", 1, 7);
+    }
+
+    /** Eight around one another, each with all sides waiting that can: 7, unless it is 1 within. */
+    private static String deepest(String within) {
+        String text = within;
+        for (int i = 0; i < 8; i++) {
+            text = "if 1<0or1=1and1=0+1*" + text + " then1else7end";
+        }
+        return text;
     }
 
     private static void names() {
